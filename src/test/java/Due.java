@@ -1,5 +1,14 @@
+import java.util.ArrayList;
+import java.util.LinkedHashSet;
+import java.util.List;
+import java.util.Set;
+
 /** What the tests share: comparing answers with those that are due, and rows made from texts. */
 final class Due {
+    private static final Set<String> said = new LinkedHashSet<>();
+    private static final List<String> untried = new ArrayList<>();
+    private static String sentence = "";
+    private static int before = 0;
     private static int right = 0;
     private static int wrong = 0;
 
@@ -11,8 +20,31 @@ final class Due {
             right++;
         } else {
             wrong++;
-            System.out.println(call + " answered " + got + ", due is " + want);
+            System.out.println(sentence + call + " answered " + got + ", due is " + want);
         }
+    }
+
+    /** From here on the comparisons are those of a sentence of a promise, or of the Terms (0). */
+    static void says(int promise, String words) {
+        endSentence();
+        said.add(promise + ": " + words);
+        sentence = "[" + promise + ": " + words + "] ";
+        before = right + wrong;
+    }
+
+    static void endSentence() {
+        if (!sentence.isEmpty() && right + wrong == before) {
+            untried.add(sentence);
+        }
+        sentence = "";
+    }
+
+    static Set<String> said() {
+        return said;
+    }
+
+    static List<String> untried() {
+        return untried;
     }
 
     static void same(String call, long got, long want) {
@@ -27,7 +59,7 @@ final class Due {
         tell(call, got, want);
     }
 
-    /** The exception's class is compared itself, as what the machine throws is of classes below the named ones. */
+    /** The class itself is compared, as what the machine throws is of classes below the named ones. Null is nothing. */
     static void fails(String call, Class<? extends RuntimeException> due, Runnable run) {
         String got = "nothing";
         try {
@@ -35,7 +67,7 @@ final class Due {
         } catch (RuntimeException e) {
             got = e.getClass().getName();
         }
-        tell(call + " throws", got, due.getName());
+        tell(call + " throws", got, due == null ? "nothing" : due.getName());
     }
 
     static void failsAndKeeps(AnchorChains x, String call, Class<? extends RuntimeException> due, Runnable run) {
