@@ -90,6 +90,11 @@ final class GapSentences {
         Due.same("words that touch in both", withSettings("aabb/aabb", 2).count(5), 2);
         AnchorChains touching = withSettings("abccda/abccda", 3);
         Due.same("words that touch, others overlap them", touching.count(5), 2);
+        AnchorChains alone = withSettings("abcdbc/abcd", 2);
+        Due.same("words that touch, none between", alone.count(4), 2);
+        Due.same("words that touch, none between: gaps", alone.count(5), 2);
+        gap("behind words that touch", alone, 1, 4, 2, 4, 0, 6);
+        Due.same("words of three that touch, none between", withSettings("abcdabbbcda/abcdab", 3).count(5), 2);
         Due.same("words that overlap in both", withSettings("abcd/abcd", 3).count(5), 2);
         AnchorChains above = withSettings("aacbb/aabb", 2);
         Due.same("a sign between above alone", above.count(5), 3);

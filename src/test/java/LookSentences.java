@@ -30,6 +30,7 @@ final class LookSentences {
         doubledFails();
         count();
         countMore();
+        countAgain();
         countFails();
         setting();
     }
@@ -221,6 +222,19 @@ final class LookSentences {
         gapIs("the first one", x, 0, 0, 1, 0, 0, 3);
         gapIs("the one between", x, 1, 3, 1, 2, 0, 3);
         gapIs("the last one", x, 2, 8, 0, 6, 1, 3);
+        manyGaps();
+    }
+
+    private static void manyGaps() {
+        AnchorChains x = TermSentences.withWords(2, "ccddaaaddbaaabbcaaaccbbd/dcdddaadddbaabcaacccbbbd");
+        int[][] due = {{0, 1, 0, 1, 2}, {3, 0, 3, 1, 3}, {5, 1, 6, 0, 3}, {8, 0, 8, 1, 3}, {11, 1, 12, 0, 3},
+            {14, 1, 14, 0, 3}, {17, 1, 16, 0, 3}, {20, 0, 18, 1, 3}, {22, 0, 21, 1, 3}, {24, 0, 24, 0, 0}};
+        Due.same("gaps of full rows", x.count(5), 10);
+        for (int gap = 0; gap < 10; gap++) {
+            gapIs("ten of them", x, gap, due[gap]);
+        }
+        Due.same("the cost of ten gaps", x.count(6), 26);
+        Due.same("no eleventh one", x.gap(10, 0), -1);
     }
 
     private static void gapWhat() {
@@ -382,6 +396,8 @@ final class LookSentences {
         counts("abcd/dcba", 2, 4, 4, 0, 3, 0, 1, 8, 8, 1, 3, 0, 0, 0, 0, 2);
         counts("abcda/dcbad", 2, 5, 5, 0, 4, 0, 1, 10, 10, 2, 3, 0, 0, 0, 0, 2);
         counts("abcd/cdab", 2, 4, 4, 2, 0, 1, 2, 12, 8, 0, 0, 2, 2, 2, 0, 2);
+        counts("abc/ddabc", 3, 3, 5, 1, 0, 1, 2, 6, 6, 0, 0, 3, 0, 2, 0, 2);
+        counts("ddabc/abc", 3, 5, 3, 1, 0, 1, 2, 6, 6, 0, 0, 3, 2, 0, 0, 2);
     }
 
     private static void countMore() {
@@ -404,6 +420,22 @@ final class LookSentences {
             Due.same("signs below", Due.rows("/" + "a".repeat(many)).count(1), many);
             Due.same("pairs of like signs", Due.rows("a".repeat(many) + "/" + "a".repeat(24)).count(10), many);
             Due.same("signs left out below", Due.rows("a".repeat(many) + "/" + "a".repeat(24)).count(12), 24 - many);
+        }
+    }
+
+    /** What was found of the rows before must not stay. */
+    private static void countAgain() {
+        String[] rows = {"abcd/dcba", "abcd/badc", "abcd/abcd", "ab/", "/ab", "aabb/bbaa", FULL + "/dcba",
+            FULL_OF_WORDS + "/" + FULL_OF_WORDS, "a/b", "/"};
+        AnchorChains x = new AnchorChains();
+        x.set(0, 2);
+        for (String each : rows) {
+            Due.type(x, each);
+            x.read();
+            AnchorChains y = TermSentences.withWords(2, each);
+            for (int what = 0; what < 13; what++) {
+                Due.same("count(" + what + ") of " + each + " behind others", x.count(what), y.count(what));
+            }
         }
     }
 

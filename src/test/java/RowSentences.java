@@ -442,6 +442,19 @@ final class RowSentences {
         Due.same("exchange() of two words", Due.rows("abcd/abcd").exchange(), 2);
         Due.same("exchange() of rows without a word", Due.rows("ab/ab").exchange(), 0);
         Due.same("exchange() of two signs and 24", Due.rows("ab/" + FULL).exchange(), 0);
+        AnchorChains y = new AnchorChains();
+        for (int place = 0; place < 3; place++) {
+            y.put(0, place, place);
+            y.put(1, place, place);
+        }
+        Due.same("exchange() right after put", y.exchange(), 1);
+        y.set(0, 2);
+        Due.same("exchange() right after set", y.exchange(), 2);
+        y.take(1, 0, 2);
+        Due.same("exchange() right after take", y.exchange(), 0);
+        y.undo();
+        y.undo();
+        Due.same("exchange() right after undo", y.exchange(), 2);
     }
 
     private static void set() {

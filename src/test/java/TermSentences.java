@@ -263,6 +263,8 @@ final class TermSentences {
         chain("the first one and the second one do not fit", withWords(2, "aabbcc/bbaacc"), 3, 0, 2);
         chain("all fit", withWords(2, "aabbcc/aabbcc"), 5, 0, 1, 2, 3, 4);
         chain("two that overlap otherwise", withWords(3, "abcda/abccda"), 2, 0);
+        chain("the third one fits the first one, the second one overlaps it", withWords(2, "abcdd/abddbc"), 3, 0, 2);
+        chain("the same behind two more", withWords(2, "ccabcdd/ccabddbc"), 5, 0, 1, 2, 4);
         AnchorChains x = withWords(2, "aabbcc/ccbbaa");
         chain("no two fit", x, 3, 0);
         for (int anchor = 0; anchor < 3; anchor++) {

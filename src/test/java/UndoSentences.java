@@ -13,6 +13,7 @@ final class UndoSentences {
         snapshots();
         bothRows();
         savedStates();
+        savedFullRows();
         savedThoughNothingChanges();
         notSaved();
         refusedIsNotSaved();
@@ -107,6 +108,22 @@ final class UndoSentences {
             Due.same("the snapshots stay", x.count(13), 2);
             x.restore(1);
             Due.same("the one from behind it, too", Due.text(x), snapshot);
+        }
+    }
+
+    /** Six states of full rows of other signs each, so that each sign of each state counts. */
+    private static void savedFullRows() {
+        AnchorChains x = Due.rows(FULL + "/" + TermSentences.back(FULL));
+        String[] states = new String[6];
+        for (int i = 0; i < 6; i++) {
+            states[i] = Twins.state(x);
+            Due.type(x, FULL.substring(i) + FULL.substring(0, i) + "/");
+            Due.type(x, FULL.substring(6 - i) + FULL.substring(0, 6 - i));
+            x.read();
+        }
+        for (int i = 5; i >= 0; i--) {
+            Due.same("undo() of full rows", x.undo(), i);
+            Due.same("full rows then", Twins.state(x), states[i]);
         }
     }
 

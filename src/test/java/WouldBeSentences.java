@@ -12,7 +12,8 @@ final class WouldBeSentences {
     private static final int[] HIGH = {5, 9, 9, 24};
     private static final String FULL = "abcdabcdabcdabcdabcdabcd";
     private static final String[] ROWS = {"/", "a/", "/b", "abcd/cdab", "dabcaabdc/abcbbdabdc", FULL + "/dcba",
-        "aabbccddaabcdabdcacbdbca/acbdbcaaabbccddaabcdabdc", "a9a9a6/b9b9b6", "bbbb" + "a9a9a2/" + "a9a9a2" + "cccc"};
+        "aabbccddaabcdabdcacbdbca/acbdbcaaabbccddaabcdabdc", "a9a9a6/b9b9b6", "bbbb" + "a9a9a2/" + "a9a9a2" + "cccc",
+        "abababab/babababa"};
 
     private WouldBeSentences() {
     }
@@ -243,6 +244,11 @@ final class WouldBeSentences {
         Due.says(27, "Returns how much of the rows is lined up with like signs.");
         Due.same("a half", Due.rows("ab/ad").likeShare(), 0.5);
         Due.same("two thirds", Due.rows("aab/aad").likeShare(), 4.0 / 6);
+        AnchorChains changed = Due.rows("ab/ad");
+        changed.change(1, 1, 1);
+        Due.same("all, right after a change", changed.likeShare(), 1.0);
+        changed.undo();
+        Due.same("a half, right after undo", changed.likeShare(), 0.5);
 
         Due.says(27, "Returns count(10), as a double, times 2, divided by the number of signs of both rows; 1.0 if "
                 + "both are empty.");
