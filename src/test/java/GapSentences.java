@@ -62,6 +62,8 @@ final class GapSentences {
             Due.same("words of " + length + ": behind it", x.partner(1, length), -1);
         }
         partners("words that overlap", withSettings("abcd/abcd", 3), 0, 0, 1, 2, 3);
+        partners("a sign in the gap behind it", withSettings("ddabcd/abcad", 3), 0, -1, -1, 0, 1, 2, 4);
+        partners("a sign in the gap behind it, below", withSettings("ddabcd/abcad", 3), 1, 2, 3, 4, -1, 5);
         partners("an anchor that is not in the chain", withSettings("aabb/bbcaa", 2), 0, 3, 4, -1, -1);
         AnchorChains full = withSettings(FULL.substring(0, 19) + "ddddd/" + "ddddd" + FULL.substring(0, 19), 5);
         Due.same("up to the last place of a full row", full.count(2), 1);
@@ -210,6 +212,8 @@ final class GapSentences {
         gap("all for nothing", withSettings("ab/ba", 5, 0, 9), 0, 0, 2, 0, 2, 0);
         gap("leaving out for nothing", withSettings("ab/ba", 5, 9, 0), 0, 0, 2, 0, 2, 0);
         gap("empty parts", withSettings("/", 5, 9, 9), 0, 0, 0, 0, 0, 0);
+        gap("a like sign behind a word that is shifted above", withSettings("ddabcd/abcad", 3), 1, 5, 1, 3, 2, 3);
+        gap("a like sign behind a word that is shifted below", withSettings("abcad/ddabcd", 3), 1, 3, 2, 5, 1, 3);
     }
 
     private static void sumOfGaps() {
@@ -302,6 +306,8 @@ final class GapSentences {
         stretches("the first one stands behind the second one below", withSettings("abcd/dcba", 3), 1, 2, 0, 0);
         stretches("two of two", withSettings("abcbd/cbadbc", 2), 2, 2, 0, 0, 1, 1);
         stretches("one, then three", withSettings("dabcd/adcba", 2), 2, 3, 0, 1, 1, 1);
+        stretches("ten of them", withSettings("cdccbbbcadbdabacc/dcbbbaacdabdbcad", 2), 10, 2,
+                0, 1, 2, 2, 3, 4, 5, 6, 7, 7, 8, 9);
     }
 
     private static void doubled(String row, int length, int place, int places) {

@@ -168,6 +168,13 @@ final class LookSentences {
         turnedIs("the last one", x, 1, 2, 2, 1);
         Due.fails("one more", RANGE, () -> x.turned(2, 0));
         Due.fails("one ahead of 0", RANGE, () -> x.turned(-1, 0));
+        String back = TermSentences.back(FULL_OF_WORDS);
+        AnchorChains many = TermSentences.withWords(5, FULL_OF_WORDS + "/" + back);
+        int[] places = {1, 2, 4, 5, 6, 8, 9, 10, 12, 13, 14, 15, 16, 17, 18, 19};
+        Due.same("turned anchors of full rows", many.count(3), places.length);
+        for (int anchor = 0; anchor < places.length; anchor++) {
+            turnedIs("of full rows", many, anchor, places[anchor], 19 - places[anchor], 0);
+        }
         AnchorChains both = TermSentences.withWords(2, "abcdc/abdc");
         Due.same("an anchor ahead of the turned one", both.anchor(0, 0), 0);
         turnedIs("it is not counted", both, 0, 2, 2, 0);

@@ -249,6 +249,12 @@ final class WouldBeSentences {
         Due.same("all, right after a change", changed.likeShare(), 1.0);
         changed.undo();
         Due.same("a half, right after undo", changed.likeShare(), 0.5);
+        AnchorChains put = new AnchorChains();
+        put.put(0, 0, 2);
+        put.put(1, 0, 2);
+        Due.same("all, right after put", put.likeShare(), 1.0);
+        put.take(1, 0, 1);
+        Due.same("none, right after take", put.likeShare(), 0.0);
 
         Due.says(27, "Returns count(10), as a double, times 2, divided by the number of signs of both rows; 1.0 if "
                 + "both are empty.");
