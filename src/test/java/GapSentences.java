@@ -64,6 +64,9 @@ final class GapSentences {
         partners("words that overlap", withSettings("abcd/abcd", 3), 0, 0, 1, 2, 3);
         partners("a sign in the gap behind it", withSettings("ddabcd/abcad", 3), 0, -1, -1, 0, 1, 2, 4);
         partners("a sign in the gap behind it, below", withSettings("ddabcd/abcad", 3), 1, 2, 3, 4, -1, 5);
+        partners("not the sign ahead of them", withSettings("dabc/cabc", 3, 9, 1), 0, -1, 1, 2, 3);
+        partners("nor the sign behind them", withSettings("abcd/abcc", 3, 9, 1), 0, 0, 1, 2, -1);
+        partners("nor those around them, below", withSettings("dabcd/cabcc", 3, 9, 1), 1, -1, 1, 2, 3, -1);
         partners("an anchor that is not in the chain", withSettings("aabb/bbcaa", 2), 0, 3, 4, -1, -1);
         AnchorChains full = withSettings(FULL.substring(0, 19) + "ddddd/" + "ddddd" + FULL.substring(0, 19), 5);
         Due.same("up to the last place of a full row", full.count(2), 1);
@@ -241,6 +244,8 @@ final class GapSentences {
         partners("the upper one is left out first", withSettings("ab/ba", 5, 9, 1), 0, 1, -1);
         partners("the upper one is left out first, below", withSettings("ab/ba", 5, 9, 1), 1, -1, 0);
         partners("the lower one alone can be left out", withSettings("a/ab", 5, 9, 1), 0, 0);
+        partners("many lower ones are left out", withSettings("a/a" + "b".repeat(23), 5), 0, 0);
+        partners("many upper ones are left out", withSettings("a" + "b".repeat(23) + "/a", 5), 1, 0);
         partners("the upper one alone can be left out", withSettings("ab/a", 5, 9, 1), 0, 0, -1);
     }
 
