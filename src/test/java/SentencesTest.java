@@ -18,11 +18,7 @@ public final class SentencesTest {
                     + "cost without anchors, places that are lined up, stretches that are turned, stretches that are "
                     + "doubled, the best length of words, what would be, rows as texts with errors by place, "
                     + "snapshots, and undo.",
-            "0: All numbers are integers, but for a share.",
             "0: Rows, words", "0: Gaps, costs", "0: Snapshots, undo",
-            "0: Ahead of the calls put, take, change, turn, copy, exchange, set the interface says: ---- rows.",
-            "0: Ahead of the calls append, clearBuffer, firstError, read, keep, restore, undo the interface says: ---- "
-                    + "texts, snapshots.",
             "0: How the state is held inside the object is free, as are the speed of each call, the text of toString "
                     + "and the behaviour of equals and hashCode.",
             "0: Use of one object from several threads at once is not promised to be safe.",
@@ -30,6 +26,7 @@ public final class SentencesTest {
                     + "after its 512th call.");
 
     public static void main(String[] args) throws IOException {
+        FaceSentences.all();
         TermSentences.all();
         GapSentences.all();
         RowSentences.all();
@@ -42,6 +39,7 @@ public final class SentencesTest {
         Due.same("sentences without a comparison", Due.untried().toString(), "[]");
         if (Files.exists(DOCUMENT)) {
             compare(sentences(Files.readString(DOCUMENT)), Due.said());
+            FaceSentences.sameAsWritten(Files.readString(DOCUMENT));
         }
         Due.end();
     }
@@ -57,7 +55,7 @@ public final class SentencesTest {
         }
     }
 
-    /** The face stands in FaceTest; a call's own line is told without its head. */
+    /** The face is compared by itself; a call's own line is told without its head. */
     private static Set<String> sentences(String document) {
         Set<String> sentences = new LinkedHashSet<>();
         int promise = 0;
